@@ -429,6 +429,21 @@ public final class PromisesTest {
         due("0 and 1 at once", true, y.shorted());
         y.set(2, 1);
         due("0 and 1 apart", false, y.shorted());
+        shortedAwayFromNodeZero();
+    }
+
+    private static void shortedAwayFromNodeZero() {
+        for (int low = 2; low <= 4; low++) {
+            SwitchNet x = new SwitchNet();
+            int high = low == 4 ? 2 : low + 1;
+            x.add(high, 8, always(4));
+            x.add(8, low, always(4));
+            due("both hold 0: " + low, false, x.shorted());
+            x.set(high, 1);
+            due("only " + high + " holds 1", true, x.shorted());
+            x.set(low, 1);
+            due("both hold 1: " + low, false, x.shorted());
+        }
     }
 
     private static void promise15Reach() {
