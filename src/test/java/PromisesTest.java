@@ -1,30 +1,7 @@
 // One method for each promise: ordinary inputs, the edges that the document names, wrong inputs.
-public final class PromisesTest {
-    private static final int LOW = Integer.MIN_VALUE;
-    private static final int HIGH = Integer.MAX_VALUE;
+public final class PromisesTest extends Checks {
     private static final int[] NOT_NODES = {-1, 11, 12, 32, 37, -27, LOW, HIGH};
     private static final int[] NOT_STORES = {-1, 0, 1, 2, 3, 4, 11, 12, 37, LOW, HIGH};
-
-    private static int wrong = 0;
-
-    private static void due(String what, int want, int got) {
-        if (got != want) {
-            wrong++;
-            System.out.println(what + " answered " + got + ", due is " + want);
-        }
-    }
-
-    private static void due(String what, boolean want, boolean got) {
-        due(what, want ? 1 : 0, got ? 1 : 0);
-    }
-
-    private static int what(int kind, int gate, int strength) {
-        return kind + 3 * (gate - 2) + 9 * (strength - 4);
-    }
-
-    private static int always(int strength) {
-        return what(2, 2, strength);
-    }
 
     // Everything that can be seen without changing the object.
     private static String face(SwitchNet x) {
@@ -67,15 +44,15 @@ public final class PromisesTest {
         for (int k = 0; k < 12; k++) {
             due("add number " + k, k, x.add(k % 11, (k + 1) % 11, k));
         }
-        due("add the 13th", SwitchNet.FULL, x.add(0, 5, 0));
-        due("add the 13th, BAD comes first, a = b", SwitchNet.BAD, x.add(5, 5, 0));
-        due("add the 13th, BAD comes first, node", SwitchNet.BAD, x.add(5, 11, 0));
-        due("add the 13th, BAD comes first, what", SwitchNet.BAD, x.add(5, 6, 27));
+        due("add the 13th", FULL, x.add(0, 5, 0));
+        due("add the 13th, BAD comes first, a = b", BAD, x.add(5, 5, 0));
+        due("add the 13th, BAD comes first, node", BAD, x.add(5, 11, 0));
+        due("add the 13th, BAD comes first, what", BAD, x.add(5, 6, 27));
         x.remove(7);
         x.remove(3);
         due("add takes the least number", 3, x.add(5, 6, 0));
         due("add takes the next number", 7, x.add(5, 6, 0));
-        due("add is full again", SwitchNet.FULL, x.add(5, 6, 0));
+        due("add is full again", FULL, x.add(5, 6, 0));
     }
 
     private static void promise2AddDecodes() {
@@ -102,23 +79,17 @@ public final class PromisesTest {
         due(name + " would", shut ? 1 : 2, x.would(10));
     }
 
-    private static void setAll(SwitchNet x, int inputs) {
-        for (int i = 2; i <= 4; i++) {
-            due("set input " + i, true, x.set(i, inputs >> (i - 2) & 1));
-        }
-    }
-
     private static void promise2AddRefuses() {
         SwitchNet x = new SwitchNet();
         for (int n = 0; n <= 10; n++) {
-            due("add a = b = " + n, SwitchNet.BAD, x.add(n, n, 2));
+            due("add a = b = " + n, BAD, x.add(n, n, 2));
         }
         for (int n : NOT_NODES) {
-            due("add from " + n, SwitchNet.BAD, x.add(n, 5, 2));
-            due("add to " + n, SwitchNet.BAD, x.add(5, n, 2));
+            due("add from " + n, BAD, x.add(n, 5, 2));
+            due("add to " + n, BAD, x.add(5, n, 2));
         }
         for (int what : new int[] {-1, 27, LOW, HIGH}) {
-            due("add what " + what, SwitchNet.BAD, x.add(5, 6, what));
+            due("add what " + what, BAD, x.add(5, 6, what));
         }
         due("after refused adds", 0, x.switches());
         due("add what 26", 0, x.add(0, 10, 26));
@@ -256,7 +227,7 @@ public final class PromisesTest {
     private static void promise8Holds() {
         SwitchNet x = new SwitchNet();
         for (int n : NOT_NODES) {
-            due("holds " + n, SwitchNet.BAD, x.holds(n));
+            due("holds " + n, BAD, x.holds(n));
         }
         x.add(0, 1, always(6));
         x.add(1, 2, always(6));
@@ -272,7 +243,7 @@ public final class PromisesTest {
     private static void promise9Would() {
         SwitchNet x = new SwitchNet();
         for (int n : NOT_NODES) {
-            due("would " + n, SwitchNet.BAD, x.would(n));
+            due("would " + n, BAD, x.would(n));
         }
         x.add(1, 5, always(4));
         x.add(0, 6, always(5));
@@ -299,7 +270,7 @@ public final class PromisesTest {
     private static void promise10Weight() {
         SwitchNet x = new SwitchNet();
         for (int n : NOT_NODES) {
-            due("weight " + n, SwitchNet.BAD, x.weight(n));
+            due("weight " + n, BAD, x.weight(n));
         }
         x.add(0, 5, always(4));
         due("one switch of strength 4", 4, x.weight(5));
@@ -337,7 +308,7 @@ public final class PromisesTest {
     private static void promise11Roots() {
         SwitchNet x = new SwitchNet();
         for (int n : NOT_NODES) {
-            due("roots " + n, SwitchNet.BAD, x.roots(n));
+            due("roots " + n, BAD, x.roots(n));
         }
         x.add(5, 6, always(4));
         x.add(6, 7, always(4));
@@ -449,7 +420,7 @@ public final class PromisesTest {
     private static void promise15Reach() {
         SwitchNet x = new SwitchNet();
         for (int n : NOT_NODES) {
-            due("reach " + n, SwitchNet.BAD, x.reach(n));
+            due("reach " + n, BAD, x.reach(n));
         }
         for (int s = 10; s > 5; s--) {
             x.add(s, s - 1, always(4));
@@ -494,7 +465,7 @@ public final class PromisesTest {
             x.set(3, 1);
             String before = face(x);
             due("only the inputs " + wanted, wanted, x.inputsFor(7, 1));
-            due("none lets 7 hold 0", SwitchNet.BAD, x.inputsFor(7, 0));
+            due("none lets 7 hold 0", BAD, x.inputsFor(7, 0));
             due("the least that leaves it", wanted == 0 ? 1 : 0, x.inputsFor(7, 2));
             same("inputsFor", before, x);
         }
@@ -505,14 +476,14 @@ public final class PromisesTest {
         due("the present value does not matter", 0, y.inputsFor(5, 0));
         y.charge(6, 1);
         due("what the stores hold now", 0, y.inputsFor(6, 1));
-        due("they don't hold it", SwitchNet.BAD, y.inputsFor(6, 2));
+        due("they don't hold it", BAD, y.inputsFor(6, 2));
         for (int s : NOT_STORES) {
             for (int v = 0; v <= 2; v++) {
-                due("inputsFor " + s, SwitchNet.BAD, y.inputsFor(s, v));
+                due("inputsFor " + s, BAD, y.inputsFor(s, v));
             }
         }
         for (int v : new int[] {-1, 3, LOW, HIGH}) {
-            due("inputsFor 5 with " + v, SwitchNet.BAD, y.inputsFor(5, v));
+            due("inputsFor 5 with " + v, BAD, y.inputsFor(5, v));
         }
     }
 
@@ -555,32 +526,29 @@ public final class PromisesTest {
     }
 
     public static void main(String[] args) {
-        promise1NewObject();
-        promise2AddNumbers();
-        promise2AddDecodes();
-        promise2AddRefuses();
-        promise3Remove();
-        promise4Set();
-        promise5Size();
-        promise6Charge();
-        promise7Settle();
-        promise7AllAtOnce();
-        promise8Holds();
-        promise9Would();
-        promise10Weight();
-        promise10NoWayThroughInputs();
-        promise11Roots();
-        promise11BlockedOnTheWay();
-        promise12Closed();
-        promise13Switches();
-        promise14Shorted();
-        promise15Reach();
-        promise16Unknowns();
-        promise17InputsFor();
-        promise18RefusedChangesNothing();
-        System.out.println(wrong == 0 ? "all promises hold" : wrong + " answers are wrong");
-        if (wrong != 0) {
-            System.exit(1);
-        }
+        check("1: new object", PromisesTest::promise1NewObject);
+        check("2: add numbers", PromisesTest::promise2AddNumbers);
+        check("2: add decodes", PromisesTest::promise2AddDecodes);
+        check("2: add refuses", PromisesTest::promise2AddRefuses);
+        check("3: remove", PromisesTest::promise3Remove);
+        check("4: set", PromisesTest::promise4Set);
+        check("5: size", PromisesTest::promise5Size);
+        check("6: charge", PromisesTest::promise6Charge);
+        check("7: settle", PromisesTest::promise7Settle);
+        check("7: all at once", PromisesTest::promise7AllAtOnce);
+        check("8: holds", PromisesTest::promise8Holds);
+        check("9: would", PromisesTest::promise9Would);
+        check("10: weight", PromisesTest::promise10Weight);
+        check("10: no way through inputs", PromisesTest::promise10NoWayThroughInputs);
+        check("11: roots", PromisesTest::promise11Roots);
+        check("11: blocked on the way", PromisesTest::promise11BlockedOnTheWay);
+        check("12: closed", PromisesTest::promise12Closed);
+        check("13: switches", PromisesTest::promise13Switches);
+        check("14: shorted", PromisesTest::promise14Shorted);
+        check("15: reach", PromisesTest::promise15Reach);
+        check("16: unknowns", PromisesTest::promise16Unknowns);
+        check("17: inputs for", PromisesTest::promise17InputsFor);
+        check("18: refused changes nothing", PromisesTest::promise18RefusedChangesNothing);
+        finish();
     }
 }
