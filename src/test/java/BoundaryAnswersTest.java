@@ -64,6 +64,62 @@ public final class BoundaryAnswersTest extends Checks {
         due("holds(10) then", 0, x.holds(10));
     }
 
+    // Store 5 hangs on node 1 when the gate holds 1, store 6 on node 1 and the gate itself.
+    private static SwitchNet gatedBy(int gate) {
+        SwitchNet x = new SwitchNet();
+        x.add(1, 5, what(0, gate, 4));
+        x.add(1, 6, always(4));
+        x.add(gate, 6, always(4));
+        return x;
+    }
+
+    private static void wouldAsTheInputsAreSet() {
+        for (int gate = 2; gate <= 4; gate++) {
+            SwitchNet x = gatedBy(gate);
+            due("would(5), " + gate + " at 0", 2, x.would(5));
+            due("would(6), " + gate + " at 0", 2, x.would(6));
+            x.set(gate, 1);
+            due("would(5), " + gate + " at 1", 1, x.would(5));
+            due("would(6), " + gate + " at 1", 1, x.would(6));
+        }
+    }
+
+    private static void weightAsTheInputsAreSet() {
+        for (int gate = 2; gate <= 4; gate++) {
+            SwitchNet x = gatedBy(gate);
+            due("weight(5), " + gate + " at 0", 1, x.weight(5));
+            x.set(gate, 1);
+            due("weight(5), " + gate + " at 1", 4, x.weight(5));
+        }
+    }
+
+    private static void rootsAsTheInputsAreSet() {
+        for (int gate = 2; gate <= 4; gate++) {
+            SwitchNet x = gatedBy(gate);
+            due("roots(5), " + gate + " at 0", 32, x.roots(5));
+            x.set(gate, 1);
+            due("roots(5), " + gate + " at 1", 2, x.roots(5));
+        }
+    }
+
+    private static void reachAsTheInputsAreSet() {
+        for (int gate = 2; gate <= 4; gate++) {
+            SwitchNet x = gatedBy(gate);
+            due("reach(1), " + gate + " at 0", 66, x.reach(1));
+            x.set(gate, 1);
+            due("reach(1), " + gate + " at 1", 98, x.reach(1));
+        }
+    }
+
+    private static void unknownsAsTheInputsAreSet() {
+        for (int gate = 2; gate <= 4; gate++) {
+            SwitchNet x = gatedBy(gate);
+            due("unknowns(), " + gate + " at 0", 6, x.unknowns());
+            x.set(gate, 1);
+            due("unknowns(), " + gate + " at 1", 4, x.unknowns());
+        }
+    }
+
     private static void weightTooSmall() {
         SwitchNet x = outerNodesJoined();
         badForEach("weight", below(0), x::weight);
@@ -277,6 +333,9 @@ public final class BoundaryAnswersTest extends Checks {
         for (int low = 4; low <= 6; low++) {
             for (int high = 4; high <= 6; high++) {
                 SwitchNet x = new SwitchNet();
+                for (int s = 5; s <= 10; s++) {
+                    x.charge(s, 0);
+                }
                 x.add(0, 7, always(low));
                 x.add(1, 7, always(high));
                 due("shorted() by " + low + " and " + high, true, x.shorted());
@@ -502,13 +561,16 @@ public final class BoundaryAnswersTest extends Checks {
         check("8: BAD when it is not 0 .. 10, too large", BoundaryAnswersTest::holdsTooLarge);
         check("9: BAD when it is not 0 .. 10, too small", BoundaryAnswersTest::wouldTooSmall);
         check("9: BAD when it is not 0 .. 10, too large", BoundaryAnswersTest::wouldTooLarge);
+        check("9: would, as the inputs are set", BoundaryAnswersTest::wouldAsTheInputsAreSet);
         check("9: what an input would hold", BoundaryAnswersTest::wouldOfInputs);
         check("9: would, not does", BoundaryAnswersTest::wouldChangesNothing);
         check("10: BAD when it is not 0 .. 10, too small", BoundaryAnswersTest::weightTooSmall);
         check("10: BAD when it is not 0 .. 10, too large", BoundaryAnswersTest::weightTooLarge);
+        check("10: the weight, as the inputs are set", BoundaryAnswersTest::weightAsTheInputsAreSet);
         check("10: the weight, from 1 to 7", BoundaryAnswersTest::weightFromLeastToGreatest);
         check("11: BAD when it is not 0 .. 10, too small", BoundaryAnswersTest::rootsTooSmall);
         check("11: BAD when it is not 0 .. 10, too large", BoundaryAnswersTest::rootsTooLarge);
+        check("11: the roots, as the inputs are set", BoundaryAnswersTest::rootsAsTheInputsAreSet);
         check("11: bit m for node m, all stores", BoundaryAnswersTest::rootsAllStores);
         check("11: bit m for node m, all inputs", BoundaryAnswersTest::rootsAllInputs);
     }
@@ -536,12 +598,14 @@ public final class BoundaryAnswersTest extends Checks {
     private static void promises15And16() {
         check("15: BAD when it is not 0 .. 10, too small", BoundaryAnswersTest::reachTooSmall);
         check("15: BAD when it is not 0 .. 10, too large", BoundaryAnswersTest::reachTooLarge);
+        check("15: to which ways lead, as the inputs are set", BoundaryAnswersTest::reachAsTheInputsAreSet);
         check("15: n among them, alone", BoundaryAnswersTest::reachItselfAmongThem);
         check("15: to which ways lead, all stores", BoundaryAnswersTest::reachAllStores);
         check("15: to which ways lead, open or not", BoundaryAnswersTest::reachByWaysThatAreNotOpen);
         check("15: to which ways lead, no input", BoundaryAnswersTest::reachNoInput);
         check("16: the number of stores, none", BoundaryAnswersTest::unknownsNone);
         check("16: the number of stores, all", BoundaryAnswersTest::unknownsAll);
+        check("16: the number of stores, as the inputs are set", BoundaryAnswersTest::unknownsAsTheInputsAreSet);
         check("16: the number of stores, each from 0 to 6", BoundaryAnswersTest::unknownsEachNumber);
     }
 

@@ -26,10 +26,15 @@ public final class BoundaryRefusalsTest extends Checks {
         return x;
     }
 
+    // Beside filled() no store has the same size or value, and no input.
     private static SwitchNet nearlyFilled() {
         SwitchNet x = filled();
         x.remove(4);
         x.remove(9);
+        for (int s = 5; s <= 10; s++) {
+            x.size(s, 1 + (s + 1) % 3);
+            x.charge(s, (s / 2 + 1) % 3);
+        }
         setAll(x, 2);
         return x;
     }

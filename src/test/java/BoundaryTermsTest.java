@@ -101,6 +101,29 @@ public final class BoundaryTermsTest extends Checks {
         due("remove(11)", true, x.remove(11));
     }
 
+    // The only closed one of twelve, whichever it is, counts everywhere.
+    private static void eachOfTheTwelveCounts() {
+        for (int only = 0; only < 12; only++) {
+            SwitchNet x = new SwitchNet();
+            SwitchNet y = new SwitchNet();
+            for (int k = 0; k < 12; k++) {
+                x.add(1, 10, k == only ? always(5) : what(0, 2, 6));
+                y.add(0, 1, k == only ? always(5) : what(0, 2, 6));
+            }
+            due("closed()", 1 << only, x.closed());
+            due("weight(10)", 5, x.weight(10));
+            due("roots(10)", 2, x.roots(10));
+            due("reach(1)", 1026, x.reach(1));
+            due("would(10)", 1, x.would(10));
+            due("unknowns()", 5, x.unknowns());
+            due("inputsFor(10, 1)", 0, x.inputsFor(10, 1));
+            due("settle()", 1, x.settle());
+            due("shorted()", true, y.shorted());
+            y.remove(only);
+            due("shorted() without it", false, y.shorted());
+        }
+    }
+
     private static void strengths4To6() {
         for (int strength = 4; strength <= 6; strength++) {
             for (int from = 0; from <= 4; from++) {
@@ -165,6 +188,43 @@ public final class BoundaryTermsTest extends Checks {
         x.set(2, 1);
         due("weight(5), all are closed", 6, x.weight(5));
         due("roots(5)", 2, x.roots(5));
+    }
+
+    private static void strongestInAnyOrder() {
+        int[][] orders = {{4, 5, 6}, {4, 6, 5}, {5, 4, 6}, {5, 6, 4}, {6, 4, 5}, {6, 5, 4}};
+        for (int[] order : orders) {
+            SwitchNet x = new SwitchNet();
+            x.add(0, 5, always(5));
+            for (int strength : order) {
+                x.add(1, 6, always(strength));
+                x.add(6, 5, always(strength));
+            }
+            due("weight(6)", 6, x.weight(6));
+            due("weight(5)", 6, x.weight(5));
+            due("roots(5)", 2, x.roots(5));
+        }
+    }
+
+    // The stores are of one size: a closed switch would make each a root of the other.
+    private static void openSwitchJoinsNothing() {
+        for (int kind = 0; kind <= 1; kind++) {
+            SwitchNet x = new SwitchNet();
+            x.set(3, kind);
+            x.charge(5, 0);
+            x.charge(6, 1);
+            x.add(5, 6, what(kind, 3, 6));
+            x.add(0, 1, what(kind, 3, 6));
+            x.add(1, 5, what(kind, 3, 6));
+            due("weight(5)", 1, x.weight(5));
+            due("roots(5)", 32, x.roots(5));
+            due("roots(6)", 64, x.roots(6));
+            due("reach(1)", 2, x.reach(1));
+            due("reach(5)", 32, x.reach(5));
+            due("would(5)", 0, x.would(5));
+            due("would(6)", 1, x.would(6));
+            due("shorted()", false, x.shorted());
+            due("settle()", 0, x.settle());
+        }
     }
 
     // A weaker switch beside the strongest would let the root 0 tie at store 6.
@@ -369,11 +429,14 @@ public final class BoundaryTermsTest extends Checks {
         check("2, 3 and 4 what they are set to", BoundaryTermsTest::settableInputsHoldWhatTheyAreSetTo);
         check("nodes 5 to 10 are stores", BoundaryTermsTest::storesBeginAtNode5AndEndAtNode10);
         check("at most twelve switches, with numbers 0 .. 11", BoundaryTermsTest::twelveSwitchesNumbered0To11);
+        check("at most twelve switches, each of them", BoundaryTermsTest::eachOfTheTwelveCounts);
         check("a strength 4, 5 or 6", BoundaryTermsTest::strengths4To6);
         check("sizes to 3, strengths from 4", BoundaryTermsTest::greatestSizeBeneathLeastStrength);
         check("kind 0: closed when its gate holds 1", BoundaryTermsTest::kind0ClosedAt1);
         check("kind 1: closed when its gate holds 0", BoundaryTermsTest::kind1ClosedAt0);
         check("kind 2: always closed", BoundaryTermsTest::kind2AlwaysClosed);
+        check("joined to the next one by a closed switch", BoundaryTermsTest::openSwitchJoinsNothing);
+        check("of several the strongest: in any order", BoundaryTermsTest::strongestInAnyOrder);
         check("of several the strongest: closed ones", BoundaryTermsTest::strongestOfSeveralClosedOnes);
         check("of several the strongest: no weaker one", BoundaryTermsTest::weakerOneBesideMakesNoWayOfItsOwn);
         check("only the first may be an input", BoundaryTermsTest::onlyTheFirstMayBeAnInput);
