@@ -65,6 +65,7 @@ public final class BoundaryChangesTest extends Checks {
         for (int n = 0; n <= 10; n++) {
             due("add(" + n + ", " + n + ", 2)", BAD, x.add(n, n, 2));
         }
+        due("add(11, 11, 27), wrong in every way", BAD, x.add(11, 11, 27));
         due("switches()", 0, x.switches());
     }
 
@@ -142,6 +143,19 @@ public final class BoundaryChangesTest extends Checks {
                 String name = "what " + whats[n] + " with inputs " + inputs;
                 due("closed(), " + name, shut ? 1 : 0, x.closed());
                 due("weight(5), " + name, shut ? strengths[n] : 1, x.weight(5));
+            }
+        }
+    }
+
+    private static void addKind2WithAnyGate() {
+        for (int what = 2; what < 27; what += 3) {
+            SwitchNet x = new SwitchNet();
+            x.add(1, 5, what);
+            for (int inputs = 0; inputs < 8; inputs++) {
+                setAll(x, inputs);
+                due("closed(), what " + what + " inputs " + inputs, 1, x.closed());
+                due("weight(5), what " + what + " inputs " + inputs, 4 + what / 9, x.weight(5));
+                due("would(5), what " + what + " inputs " + inputs, 1, x.would(5));
             }
         }
     }
@@ -642,6 +656,7 @@ public final class BoundaryChangesTest extends Checks {
         check("2: BAD when what is not 0 .. 26, too small", BoundaryChangesTest::addWhatTooSmall);
         check("2: BAD when what is not 0 .. 26, too large", BoundaryChangesTest::addWhatTooLarge);
         check("2: what is kind + 3 * (gate - 2) + 9 * (strength - 4)", BoundaryChangesTest::addWhatFromStepToStep);
+        check("2: for kind 2 the gate does not matter", BoundaryChangesTest::addKind2WithAnyGate);
         check("2: between the nodes a and b, two inputs", BoundaryChangesTest::addBesideInputsAlone);
         check("2: FULL when there are twelve", BoundaryChangesTest::addFullAtTwelve);
         check("2: FULL when there are twelve, all open", BoundaryChangesTest::addOpenSwitchesFillToo);
